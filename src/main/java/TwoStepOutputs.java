@@ -41,8 +41,9 @@ public final class TwoStepOutputs {
         if (down) return DOWN;
         if (barriers.made > 0) return STATE;
         if (outputs.size() >= MOST_OUTPUTS) return ROOM;
-        outputs.add(new Output(sort));
-        return outputs.size() - 1;
+        int number = outputs.size();
+        outputs.add(new Output(number, sort));
+        return number;
     }
 
     public int write(int output, int key, int value) {
@@ -283,26 +284,24 @@ public final class TwoStepOutputs {
         barriers.made++;
         int written = 0;
         for (int o = 0; o < outputs.size(); o++) {
-            int rows = outputs.get(o).openRows;
-            if (rows > 0 && !closeOpenPart(o, mark)) return DOWN;
+            Output output = outputs.get(o);
+            int rows = output.openRows;
+            if (rows > 0 && !closeOpenPart(output, mark)) return DOWN;
             written += rows;
         }
         barriers.add(mark);
         return written;
     }
 
-    private boolean closeOpenPart(int o, int mark) {
-        Output output = outputs.get(o);
-        int number = output.parts.size();
-        int rows = output.openRows;
-        Part part = new Part(disk.count());
-        for (int i = 0; i < rows && i < MOST_OPEN_ROWS; i++) {
-            if (!writeRecord(ROW, o, number, output.openKeys[i], output.openValues[i])) return false;
+    private boolean closeOpenPart(Output output, int mark) {
+        Part part = new Part(output.parts.size(), disk.count());
+        for (int i = 0; i < output.openRows && i < MOST_OPEN_ROWS; i++) {
+            if (!writeRecord(ROW, output.number, part.number, output.openKeys[i], output.openValues[i])) return false;
             // Only a part with a record has its number; one without any must leave it to the next.
             if (i == 0) output.parts.add(part);
             part.rows++;
         }
-        if (!writeRecord(PART_CLOSED, o, number, mark, NONE)) return false;
+        if (!writeRecord(PART_CLOSED, output.number, part.number, mark, NONE)) return false;
         part.mark = mark;
         part.state = CLOSED;
         output.openRows = 0;
@@ -320,40 +319,38 @@ public final class TwoStepOutputs {
     private int showAll() {
         int came = 0;
         for (int o = 0; o < outputs.size(); o++) {
-            int rows = showOutput(o);
+            int rows = showOutput(outputs.get(o));
             if (rows == DOWN) return DOWN;
             came += rows;
         }
         return came;
     }
 
-    private int showOutput(int o) {
-        Output output = outputs.get(o);
+    private int showOutput(Output output) {
         int came = 0;
         for (int p = 0; p < output.parts.size(); p++) {
             Part part = output.parts.get(p);
             if (part.state != CLOSED || part.mark > theMark) continue;
             if (output.tryFails()) return came;
-            int rows = showPart(o, p, part);
+            int rows = showPart(output, part);
             if (rows == DOWN) return DOWN;
             came += rows;
         }
         return came;
     }
 
-    private int showPart(int o, int p, Part part) {
-        Output output = outputs.get(o);
+    private int showPart(Output output, Part part) {
         int came = 0;
         for (int place = 0; place < part.rows; place++) {
             if (!mayAct()) return DOWN;
             int key = disk.cell(part.firstRecord + place, Disk.KEY_OR_MARK);
             int value = disk.cell(part.firstRecord + place, Disk.VALUE);
             boolean taken = output.sort == LINES
-                    ? output.lines.take(key, value, p, place)
-                    : output.table.take(key, value, p, place);
+                    ? output.lines.take(key, value, part.number, place)
+                    : output.table.take(key, value, part.number, place);
             if (taken) came++;
         }
-        if (!writeRecord(PART_SHOWN, o, p, NONE, NONE)) return DOWN;
+        if (!writeRecord(PART_SHOWN, output.number, part.number, NONE, NONE)) return DOWN;
         part.state = SHOWN;
         return came;
     }
@@ -362,22 +359,21 @@ public final class TwoStepOutputs {
     private int giveUpFrom(int mark) {
         int gone = 0;
         for (int o = 0; o < outputs.size(); o++) {
-            int rows = giveUpParts(o, mark);
-            if (rows == DOWN) return DOWN;
             Output output = outputs.get(o);
+            int rows = giveUpParts(output, mark);
+            if (rows == DOWN) return DOWN;
             gone += rows + output.openRows;
             output.openRows = 0;
         }
         return gone;
     }
 
-    private int giveUpParts(int o, int mark) {
-        Output output = outputs.get(o);
+    private int giveUpParts(Output output, int mark) {
         int gone = 0;
         for (int p = 0; p < output.parts.size(); p++) {
             Part part = output.parts.get(p);
             if (part.state != CLOSED || part.mark < mark) continue;
-            if (!writeRecord(PART_GONE, o, p, NONE, NONE)) return DOWN;
+            if (!writeRecord(PART_GONE, output.number, part.number, NONE, NONE)) return DOWN;
             part.state = GONE;
             gone += part.rows;
         }
@@ -469,6 +465,7 @@ public final class TwoStepOutputs {
 
     /** Rows that were written to the disk together: their records stand side by side. */
     private static final class Part {
+        private final int number;
         private final int firstRecord;
         private int rows = 0;
         private int mark = NONE;
@@ -477,12 +474,14 @@ public final class TwoStepOutputs {
         private int placesMet = 0;
         private int nextPlace = 0;
 
-        Part(int firstRecord) {
+        Part(int number, int firstRecord) {
+            this.number = number;
             this.firstRecord = firstRecord;
         }
     }
 
     private static final class Output {
+        private final int number;
         private final int sort;
         private final int[] openKeys = new int[MOST_OPEN_ROWS];
         private final int[] openValues = new int[MOST_OPEN_ROWS];
@@ -494,7 +493,8 @@ public final class TwoStepOutputs {
         private final Lines lines = new Lines();
         private final Table table = new Table();
 
-        Output(int sort) {
+        Output(int number, int sort) {
+            this.number = number;
             this.sort = sort;
         }
 

@@ -299,16 +299,17 @@ public final class ChangeBoundsTest {
         Story.run("end: tries that fail", "output(0) write(0,1,1) fails(0,1) end(4)=0 told(4)=1 about(0,6)=1",
                 "show()=1");
         String row = "output(0) write(0,1,1) ";
-        Story.run("end: power at act 1", row, "power(1) end(4)=DOWN told(1)=0 told(4)=0 told(7)=1 end(4)!DOWN",
-                "open()=0 write(0,1,1) end(4)=1");
-        Story.run("end: power at act 2", row, "power(2) end(4)=DOWN told(1)=1 told(4)=0 part(0,0,2)=0 open()=0",
-                "told(4)=0 end(4)=0");
-        Story.run("end: power at act 3", row, "power(3) end(4)=DOWN told(1)=2 told(4)=0 told(2)=NONE part(0,0,2)=1",
-                "open()=1 part(0,0,2)=3 told(4)=0 told(3)=NONE write(0,2,2) end(4)=1 told(7)=2");
-        Story.run("end: power at act 4", row, "power(4) end(4)=DOWN told(4)=1 told(2)=4 about(0,3)=0 end(5)!DOWN",
-                "end(4)!OUTSIDE open()=1 told(4)=1 about(0,3)=1 end(5)!STATE");
-        Story.run("end: power at act 5", row, "power(5) end(4)=DOWN told(4)=1 about(0,3)=1 part(0,0,2)=1 open()=1",
-                "about(0,3)=1");
+        Story.run("end: power at act 1", row, "power(1) end(4)=DOWN told(6)=0 told(5)=1 told(1)=0 told(0)=1",
+                "told(8)=0 told(4)=0 told(7)=1 end(4)!DOWN open()=0 write(0,1,1) end(4)=1");
+        Story.run("end: power at act 2", row, "power(2) end(4)=DOWN told(6)=1 told(5)=1 told(1)=1 told(4)=0",
+                "part(0,0,2)=0 open()=0 told(4)=0 end(4)=0");
+        Story.run("end: power at act 3", row, "power(3) end(4)=DOWN told(6)=2 told(5)=1 told(1)=2 told(4)=0",
+                "told(2)=NONE part(0,0,2)=1 open()=1 part(0,0,2)=3 told(4)=0 told(3)=NONE write(0,2,2) end(4)=1",
+                "told(7)=2");
+        Story.run("end: power at act 4", row, "power(4) end(4)=DOWN told(6)=3 told(5)=1 told(4)=1 told(2)=4",
+                "about(0,3)=0 end(5)!DOWN end(4)!OUTSIDE open()=1 told(4)=1 about(0,3)=1 end(5)!STATE");
+        Story.run("end: power at act 5", row, "power(5) end(4)=DOWN told(6)=4 told(5)=1 told(4)=1 about(0,3)=1",
+                "part(0,0,2)=1 open()=1 about(0,3)=1");
         Story.run("end: power behind its last act", row, "power(6) end(4)=1 told(5)=0 told(6)=5");
     }
 

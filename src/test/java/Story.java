@@ -6,24 +6,24 @@ import java.util.regex.Pattern;
 
 /**
  * A run of calls on a new object, told as a text: "output(0)=0 write(0,10,5)!OUTSIDE 3*write(0,1,5)". Behind "=" stands
- * the answer that is due; behind "!" too, and besides nothing may have changed by that call.
+ * the answer that is due; behind "!" too, and besides nothing may have changed by that call; with "?" that alone.
  */
 final class Story {
     /** The document promises nothing behind that many calls. */
     static final int MOST_CALLS = 512;
 
-    private static final Pattern CALL = Pattern.compile("(?:(\\d+)\\*)?(\\w+)\\(([^)]*)\\)(?:([=!])(\\S+))?");
+    private static final Pattern CALL = Pattern.compile("(?:(\\d+)\\*)?(\\w+)\\(([^)]*)\\)(?:([=!])(\\S+)|(\\?))?");
 
     private Story() {
     }
 
     record Call(String name, int[] with, String sign, long due) {
         boolean hasDue() {
-            return !sign.isEmpty();
+            return sign.equals("=") || sign.equals("!");
         }
 
         boolean changesNothing() {
-            return sign.equals("!");
+            return sign.equals("!") || sign.equals("?");
         }
 
         long on(TwoStepOutputs x) {
@@ -105,8 +105,9 @@ final class Story {
         String inside = found.group(3);
         int[] with = inside.isEmpty() ? new int[0]
                 : Arrays.stream(inside.split(",")).mapToInt(text -> (int) number(text)).toArray();
-        String sign = found.group(4) == null ? "" : found.group(4);
-        return new Call(found.group(2), with, sign, sign.isEmpty() ? 0 : number(found.group(5)));
+        String due = found.group(5);
+        String sign = due != null ? found.group(4) : found.group(6) != null ? "?" : "";
+        return new Call(found.group(2), with, sign, due == null ? 0 : number(due));
     }
 
     private static long number(String text) {

@@ -1,5 +1,7 @@
 import java.util.ArrayList;
+import java.util.HashMap;
 import java.util.List;
+import java.util.Map;
 import java.util.Set;
 import java.util.TreeSet;
 
@@ -10,6 +12,8 @@ import java.util.TreeSet;
  */
 final class Twins {
     private static final Set<String> WITH_MARK = Set.of("barrier", "keep", "give", "end");
+    /** The same texts come over and over. */
+    private static final Map<String, List<Story.Call>> PARSED = new HashMap<>();
 
     private final String title;
     private final List<Story.Call> before;
@@ -25,6 +29,7 @@ final class Twins {
         Twins twins = new Twins(title, before, call);
         twins.asked(twins.allQuestions());
         twins.then(twins.workUntilPowerFails());
+        twins.then(twins.whatOpenPartsHold());
         twins.then("open() " + summary());
         twins.then("show() " + summary() + "show() show() " + summary());
         twins.then(readingOn());
@@ -45,7 +50,7 @@ final class Twins {
     }
 
     private void then(String text) {
-        List<Story.Call> calls = Story.calls(text);
+        List<Story.Call> calls = PARSED.computeIfAbsent(text, Story::calls);
         int room = Math.max(1, Story.MOST_CALLS - before.size() - 1);
         compare(calls.subList(0, Math.min(calls.size(), room)));
     }
@@ -80,7 +85,7 @@ final class Twins {
         for (int i = 0; i <= x.told(1); i++) {
             for (int what = 0; what < 5; what++) ask(text, "record", i, what);
         }
-        return Story.calls(text.toString());
+        return PARSED.computeIfAbsent(text.toString(), Story::calls);
     }
 
     private static void askOfOutput(StringBuilder text, TwoStepOutputs x, int o) {
@@ -123,6 +128,16 @@ final class Twins {
             ask(text, "keep", mark);
             ask(text, "told", 6);
             ask(text, "told", 5);
+        }
+        return text.toString();
+    }
+
+    private String whatOpenPartsHold() {
+        StringBuilder text = new StringBuilder("power(-6) ");
+        TwoStepOutputs x = told();
+        ask(text, "barrier", Math.max(-1, x.told(3)) + 1);
+        for (int i = x.told(1); i < x.told(1) + 70; i++) {
+            for (int what = 1; what < 5; what++) ask(text, "record", i, what);
         }
         return text.toString();
     }
